@@ -37,11 +37,11 @@ public final class DerivativeParser {
 
     /** One more than the longest input, because ahead() looks one token past a full input. */
     private static final int MOST_TOKENS = 13;
-    /** The bounds between that many tokens are 0 .. 13. */
-    private static final int BOUNDS = 14;
+    /** The bounds of stretches of the longest input are 0 .. 12. */
+    private static final int BOUNDS = 13;
     /** BOUNDS times BOUNDS. */
-    private static final int STRETCHES = 196;
-    /** BOUNDS times MOST_CELLS. */
+    private static final int STRETCHES = 169;
+    /** MOST_CELLS times the 14 bounds that MOST_TOKENS tokens have. */
     private static final int TAILS = 224;
 
     /** Stands for the length of a word that does not exist: every true length is below it. */
@@ -207,9 +207,8 @@ public final class DerivativeParser {
         if (!isToken(token)) {
             return BAD_TOKEN;
         }
-        // The place behind the input is free: the next feed writes it and its stretches anew.
+        // The place behind the input is free, and the next feed writes it anew.
         tokens[inputLength] = token;
-        matchUpTo(inputLength + 1);
         int missing = tokensMissing(inputLength + 1);
         return lengthOrNone(missing);
     }
@@ -381,7 +380,7 @@ public final class DerivativeParser {
 
     /**
      * The length of a shortest word that completes the first `end` tokens to a word of the root, or
-     * FAR. The stretches up to `end` must be there.
+     * FAR. The stretches that end before `end` must be there; the others are not looked at.
      */
     private int tokensMissing(int end) {
         for (int cell = 0; cell < cellCount; cell++) {
@@ -426,7 +425,7 @@ public final class DerivativeParser {
         }
     }
 
-    /** Either the left word reaches the end of the input, or the right word begins inside it. */
+    /** Either the left word reaches the end of the input, or the right word begins before it. */
     private int tailInTwo(int left, int right, int from, int end) {
         int best = joined(tails[from * MOST_CELLS + left], leasts[right]);
         for (int middle = from; middle < end; middle++) {

@@ -42,11 +42,13 @@ public final class PromiseTest {
         promise14Verdict();
         promise15Shortest();
         promise15LongCompletions();
+        promise15AddedUpCompletions();
         promise16Ahead();
         promise16AheadOfFullInput();
         promise17Longest();
         cyclesWithoutWords();
         languagesOfLateCells();
+        longestChains();
         CHECK.end();
     }
 
@@ -462,6 +464,30 @@ public final class PromiseTest {
         }
     }
 
+    /** Each 0 fed owes 1024 tokens more: the words are 0^n and then n times 1024 tokens 1. */
+    private static void promise15AddedUpCompletions() {
+        DerivativeParser x = new DerivativeParser(16, 12, 2);
+        x.define(0, ALT, 1, 2);
+        x.define(1, SEQ, 3, 4);
+        x.define(2, SEQ, 3, 5);
+        x.define(3, TOKEN, 0, 0);
+        x.define(4, SEQ, 6, 6);
+        x.define(5, SEQ, 0, 4);
+        for (int cell = 6; cell < 15; cell++) {
+            x.define(cell, SEQ, cell + 1, cell + 1);
+        }
+        x.define(15, TOKEN, 1, 0);
+        due("least", x.least(0), 1025);
+        x.open(0);
+        for (int n = 1; n <= 12; n++) {
+            due("ahead to " + n + " zeros", x.ahead(0), n * 1024);
+            due("feed zero " + n, x.feed(0), PARTIAL);
+            due("shortest after " + n + " zeros", x.shortest(), n * 1024);
+        }
+        due("ahead past a full input", x.ahead(0), 13 * 1024);
+        due("ahead with a 1", x.ahead(1), 12 * 1024 - 1);
+    }
+
     private static void promise16Ahead() {
         DerivativeParser x = nested(6);
         due("closed before a bad token", x.ahead(-1), CLOSED);
@@ -586,5 +612,31 @@ public final class PromiseTest {
         due("its first token", x.feed(0), PARTIAL);
         due("its shortest", x.shortest(), 1);
         due("its second token", x.feed(1), ACCEPTED);
+    }
+
+    /** All cells are one chain, up or down, so the root learns of its word last of all. */
+    private static void longestChains() {
+        for (int cells = 4; cells <= 16; cells++) {
+            DerivativeParser up = new DerivativeParser(cells, 4, 2);
+            DerivativeParser down = new DerivativeParser(cells, 4, 2);
+            for (int cell = 0; cell < cells - 1; cell++) {
+                up.define(cell, ALT, cell, cell + 1);
+                down.define(cell + 1, ALT, cell, cell + 1);
+            }
+            up.define(cells - 1, TOKEN, 1, 0);
+            down.define(0, TOKEN, 1, 0);
+            chain(up, 0);
+            chain(down, cells - 1);
+        }
+    }
+
+    private static void chain(DerivativeParser x, int root) {
+        due("least of a chain", x.least(root), 1);
+        due("open a chain", x.open(root), PARTIAL);
+        due("ahead of a chain", x.ahead(1), 0);
+        due("feed a chain", x.feed(1), ACCEPTED);
+        due("longest of a chain", x.longest(), 1);
+        due("past a chain", x.feed(1), DEAD);
+        due("longest past a chain", x.longest(), 1);
     }
 }

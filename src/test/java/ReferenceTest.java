@@ -41,6 +41,9 @@ public final class ReferenceTest {
         for (int cell = 0; cell < cells; cell++) {
             define(cell);
         }
+        if (random.nextInt(4) == 0) {
+            defineLongWords();
+        }
         open();
         for (int call = 0; call < CALLS && want.nodeCount() < MOST_NODES; call++) {
             oneCall();
@@ -102,6 +105,17 @@ public final class ReferenceTest {
         int right = number(cells);
         due("define(" + target + ", " + kind + ", " + left + ", " + right + ")",
                 x.define(target, kind, left, right), want.define(target, kind, left, right));
+    }
+
+    /** Makes the upper half of the cells a chain in which each has words twice as long as the next. */
+    private void defineLongWords() {
+        for (int cell = cells / 2; cell < cells; cell++) {
+            boolean last = cell == cells - 1;
+            int kind = last ? 2 : 4;
+            int side = last ? 0 : cell + 1;
+            due("define(" + cell + ", " + kind + ", " + side + ", " + side + ")",
+                    x.define(cell, kind, side, side), want.define(cell, kind, side, side));
+        }
     }
 
     /** Mostly a number from 0 up to below the bound. */
