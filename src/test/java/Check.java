@@ -1,6 +1,6 @@
-/** Counts the answers that are not as due, prints them, and ends the program accordingly. */
+/** Counts the answers that are not as due and prints the first of them. */
 final class Check {
-    private static final int MOST_PRINTED = 50;
+    private static final int MOST_PRINTED = 10;
 
     private final String test;
     private long looked = 0;
@@ -14,6 +14,13 @@ final class Check {
         looked++;
         if (got != want) {
             report(call + " answered " + got + ", due is " + want);
+        }
+    }
+
+    void same(String what, String got, String want) {
+        looked++;
+        if (!got.equals(want)) {
+            report(what + ": answered" + got + ", due are" + want);
         }
     }
 
@@ -31,9 +38,18 @@ final class Check {
         }
     }
 
+    long looked() {
+        return looked;
+    }
+
+    /** A test that looked at nothing has shown nothing. */
+    boolean isGood() {
+        return wrong == 0 && looked > 0;
+    }
+
     void end() {
         System.out.println(test + ": " + looked + " looked at, " + wrong + " not as due");
-        if (wrong != 0 || looked == 0) {
+        if (!isGood()) {
             System.exit(1);
         }
     }
