@@ -221,6 +221,7 @@ public final class RulesTest extends Samples {
         powersDue(check);
         sumsDue(check);
         owedDue(check);
+        leftRecursionDue(check);
     }
 
     /** Both orders of the cells, as their order must play no part. */
@@ -286,5 +287,25 @@ public final class RulesTest extends Samples {
         check.due("shortest behind it", x.shortest(), 8190 * 11);
         check.due("ahead to another 1", x.ahead(1), NONE);
         check.due("ahead to a 0 behind it", x.ahead(0), 8190 * 11 - 1);
+    }
+
+    /** The words are a 0 and then any number of times 4096 tokens 1, by cell 0 on its own left. */
+    private static void leftRecursionDue(Check check) {
+        DerivativeParser x = new DerivativeParser(16, 12, 2);
+        x.define(0, ALT, 2, 1);
+        x.define(1, SEQ, 0, 3);
+        x.define(2, TOKEN, 0, 0);
+        for (int cell = 3; cell < 15; cell++) {
+            x.define(cell, SEQ, cell + 1, cell + 1);
+        }
+        x.define(15, TOKEN, 1, 0);
+        check.due("least of the longer side", x.least(1), 4097);
+        opened(x, 0, 0);
+        for (int n = 0; n < 12; n++) {
+            check.due("shortest behind " + n + " ones", x.shortest(), n == 0 ? 0 : 4096 - n);
+            check.due("ahead to a 1 behind " + n + " ones", x.ahead(1), 4095 - n);
+            check.due("ahead to a 0 behind " + n + " ones", x.ahead(0), NONE);
+            x.feed(1);
+        }
     }
 }

@@ -209,15 +209,18 @@ public final class TermsTest extends Samples {
     }
 
     private static void epsilonHasTheEmptyWord(Check check) {
-        DerivativeParser x = new DerivativeParser(4, 4, 2);
-        x.define(2, EPSILON, 0, 0);
-        check.due("least", x.least(2), 0);
-        check.due("open", x.open(2), ACCEPTED);
-        for (int token = 0; token < 2; token++) {
-            check.due("ahead", x.ahead(token), NONE);
-            check.due("feed", x.feed(token), DEAD);
-            check.due("longest", x.longest(), 0);
-            check.due("cut", x.keep(0), ACCEPTED);
+        for (int cell = 0; cell < 16; cell++) {
+            DerivativeParser x = new DerivativeParser(cell + 1, 4, 2);
+            x.define(cell, EPSILON, 0, 0);
+            check.due("least of cell " + cell, x.least(cell), 0);
+            check.due("open cell " + cell, x.open(cell), ACCEPTED);
+            check.due("longest of nothing", x.longest(), 0);
+            for (int token = 0; token < 2; token++) {
+                check.due("ahead", x.ahead(token), NONE);
+                check.due("feed", x.feed(token), DEAD);
+                check.due("longest", x.longest(), 0);
+                check.due("cut", x.keep(0), ACCEPTED);
+            }
         }
     }
 
@@ -237,10 +240,10 @@ public final class TermsTest extends Samples {
         }
     }
 
-    /** The words of two tokens and less, over the alphabet 0 .. 2, that cell 0 has. */
-    private static String shortWords(Check check, DerivativeParser x) {
+    /** The words of two tokens and less, over the alphabet 0 .. 2, that the root has. */
+    private static String shortWords(Check check, DerivativeParser x, int root) {
         StringBuilder words = new StringBuilder();
-        x.open(0);
+        x.open(root);
         words.append(isWord(check, x) ? " -" : "");
         for (int first = 0; first < 3; first++) {
             x.feed(first);
@@ -262,19 +265,25 @@ public final class TermsTest extends Samples {
         return accepted;
     }
 
-    /** Cell 0 as given; cell 1 has 0, cell 2 has 1, cell 3 the empty word, cell 4 has no word. */
-    private static DerivativeParser ofSmallCells(int kind, int left, int right) {
+    /**
+     * Cell 0 as given; cell 1 has 0, cell 2 has 1, cell 3 the empty word, cell 4 has no word. All of
+     * them are moved on by some places, around the end, as their numbers must play no part.
+     */
+    private static DerivativeParser ofSmallCells(int kind, int left, int right, int moved) {
         DerivativeParser x = new DerivativeParser(5, 4, 3);
-        x.define(0, kind, left, right);
-        x.define(1, TOKEN, 0, 0);
-        x.define(2, TOKEN, 1, 0);
-        x.define(3, EPSILON, 0, 0);
+        x.define(moved % 5, kind, (left + moved) % 5, (right + moved) % 5);
+        x.define((1 + moved) % 5, TOKEN, 0, 0);
+        x.define((2 + moved) % 5, TOKEN, 1, 0);
+        x.define((3 + moved) % 5, EPSILON, 0, 0);
         return x;
     }
 
     private static void smallWordsDue(Check check, int kind, int left, int right, String words) {
-        String which = "words of kind " + kind + " of " + left + " and " + right;
-        check.same(which, shortWords(check, ofSmallCells(kind, left, right)), words);
+        for (int moved = 0; moved < 5; moved++) {
+            String which = "words of kind " + kind + " of " + left + " and " + right + " moved by " + moved;
+            DerivativeParser x = ofSmallCells(kind, left, right, moved);
+            check.same(which, shortWords(check, x, moved), words);
+        }
     }
 
     private static void altHasBoth(Check check) {
@@ -398,7 +407,7 @@ public final class TermsTest extends Samples {
     }
 
     private static void completingComesBehind(Check check) {
-        DerivativeParser x = ofSmallCells(SEQ, 1, 2);
+        DerivativeParser x = ofSmallCells(SEQ, 1, 2, 0);
         check.due("nothing of 01", x.open(0), PARTIAL);
         check.due("what is due behind nothing", x.shortest(), 2);
         check.due("1, before which 0 would be due", x.feed(1), DEAD);
