@@ -7,8 +7,9 @@ import java.util.List;
 import java.util.TreeSet;
 
 /**
- * Every sentence of the document's "Terms" and promises has a test that bears its words, and every
- * such test bears words that stand in the document.
+ * Every sentence of the document's "What it is", "Terms" and promises has a test that bears its words,
+ * and every such test bears words that stand in the document. FaceTest has "The public face" and the
+ * table of constants; "Not promised" has nothing to test.
  */
 public final class DocumentTest {
     private static final Path DOCUMENT = Path.of("../shared/DOC.md");
@@ -17,6 +18,7 @@ public final class DocumentTest {
 
     /** Words that only lead to the list behind them, and promise nothing by themselves. */
     private static final List<String> LEADS = Arrays.asList(
+            Sentences.name("What it is", "The public constants are:"),
             Sentences.name("Languages", "Each cell c has a language L(c), a set of words, by its kind:"),
             Sentences.name("Completions and verdicts", "The verdict on a word w is"),
             Sentences.name("Promise 1",
@@ -48,6 +50,7 @@ public final class DocumentTest {
 
     private static List<String> testedSentences() {
         Sentences all = new Sentences();
+        OverviewTest.list(all);
         TermsTest.list(all);
         RulesTest.list(all);
         CellsTest.list(all);
@@ -64,7 +67,7 @@ public final class DocumentTest {
         for (String line : lines) {
             if (line.startsWith("## ")) {
                 section = line.substring(3).replaceAll(":.*", "");
-                counts = section.equals("Terms") || section.startsWith("Promise ");
+                counts = section.equals("What it is") || section.equals("Terms") || section.startsWith("Promise ");
                 continue;
             }
             String text = line.replace("`", "").replaceFirst("^(- |\\d+\\. )", "");
@@ -72,7 +75,7 @@ public final class DocumentTest {
                 section = text.substring(2, text.indexOf(".**"));
                 text = text.substring(text.indexOf(".**") + 3).trim();
             }
-            if (counts && !text.isBlank()) {
+            if (counts && !text.isBlank() && !text.startsWith("|")) {
                 addSentences(sentences, section, text);
             }
         }
